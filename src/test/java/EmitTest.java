@@ -57,6 +57,7 @@ public final class EmitTest {
     }
     Due.same("emit of a good one when full", core.emit(0, 0, 0, 0), -2);
     Due.same("emit of a bad operation when full", core.emit(11, 0, 0, 0), -2);
+    Due.same("emit of a negative operation when full", core.emit(-1, 0, 0, 0), -2);
     Due.same("emit of a bad operand when full", core.emit(0, 4, 0, 0), -2);
     Due.same("run of 30", core.run(40), 30);
     Due.same("register(0) from the 30th", core.register(0), 30);
