@@ -1,4 +1,4 @@
-/** Promise 4. A program is written as letters: ( LOOP, ) END, s SET, 1 to 6 an IFPOS over as many. */
+/** Promise 4, with programs in the letters of Due.programOf. */
 public final class SoundTest {
   public static void main(String[] args) {
     loops();
@@ -7,24 +7,8 @@ public final class SoundTest {
     Due.end();
   }
 
-  private static PowerFailCore program(String letters) {
-    PowerFailCore core = new PowerFailCore();
-    for (char letter : letters.toCharArray()) {
-      int answer = switch (letter) {
-        case '(' -> core.emit(9, 2, 0, 0);
-        case ')' -> core.emit(10, 0, 0, 0);
-        case 's' -> core.emit(0, 0, 0, 0);
-        default -> core.emit(8, 0, letter - '0', 0);
-      };
-      if (answer < 1) {
-        Due.same("emit of " + letter + " in " + letters, answer, 1);
-      }
-    }
-    return core;
-  }
-
   private static void check(String letters, boolean want) {
-    PowerFailCore core = program(letters);
+    PowerFailCore core = Due.programOf(letters);
     Due.same("sound() of \"" + letters + "\"", core.sound(), want);
     Due.same("run of \"" + letters + "\" is refused", core.run(40) == -3, !want);
   }
