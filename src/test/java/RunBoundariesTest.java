@@ -6,10 +6,15 @@ public final class RunBoundariesTest {
   private static final int HIGH = Due.HIGH;
   private static final int[] PERIODS = {LOW, -1, 0, 1, 38, 39, 40, 41, 99, 100, 101, 102, HIGH};
 
+  // The ticks that it takes to wake, and to do and save one SET.
+  private static final int WAKING = 12;
+  private static final int SETTING = 14;
+
   public static void main(String[] args) throws ReflectiveOperationException {
     unsoundOfEachKindChangesNothing();
     everyPeriodGivesTheSame();
     periodIsClamped();
+    powerFailsAfterEachPeriod();
     emptyProgram();
     loopCountsOnceFromOutside();
     endCountsOnceAPass();
@@ -62,16 +67,34 @@ public final class RunBoundariesTest {
     }
   }
 
-  /** No answer shows the period, so this looks inside: one SET takes 26 ticks of it. */
+  /** Neither the period nor a failure shows in an answer, so this looks inside. */
+  private static int ticksLeft(PowerFailCore core) throws ReflectiveOperationException {
+    Field field = PowerFailCore.class.getDeclaredField("ticksLeft");
+    field.setAccessible(true);
+    return field.getInt(core);
+  }
+
   private static void periodIsClamped() throws ReflectiveOperationException {
     Due.about("period, clamped into 40..100");
-    Field ticksLeft = PowerFailCore.class.getDeclaredField("ticksLeft");
-    ticksLeft.setAccessible(true);
     for (int period : PERIODS) {
       PowerFailCore core = Due.programOf("s");
       core.run(period);
       int clamped = Math.max(40, Math.min(100, period));
-      Due.same("ticks left of run(" + period + ")", ticksLeft.getInt(core), clamped - 26);
+      Due.same("ticks left of run(" + period + ")", ticksLeft(core), clamped - WAKING - SETTING);
+    }
+  }
+
+  private static void powerFailsAfterEachPeriod() throws ReflectiveOperationException {
+    Due.about("the power fails whenever the machine has worked for period ticks");
+    for (int period = 40; period <= 100; period++) {
+      int perPower = (period - WAKING) / SETTING;
+      for (int sets = 1; sets <= 30; sets++) {
+        PowerFailCore core = Due.programOf("s".repeat(sets));
+        Due.same("run(" + period + ") of " + sets, core.run(period), sets);
+        int inTheLast = 1 + (sets - 1) % perPower;
+        Due.same("ticks left of run(" + period + ") of " + sets, ticksLeft(core),
+            period - WAKING - SETTING * inTheLast);
+      }
     }
   }
 
