@@ -32,8 +32,9 @@ public final class PowerFailCore {
     private static final int MOST_REPEATS = 6;
     private static final int MOST_OPEN = 2;
 
-    // A tick is one instruction begun or one word of lasting memory read or written. To wake,
-    // to do one instruction and to save takes 27 at most, so the shortest period gets on.
+    // A tick is one instruction fetched and begun, or one other word of lasting memory read or
+    // written. To wake, to do one instruction and to save takes 27 at most, so the shortest
+    // period gets on.
     private static final int SHORTEST_PERIOD = 40;
     private static final int LONGEST_PERIOD = 100;
 
